@@ -56,17 +56,17 @@ public final class PhraseRoads {
     private static final int STEP_MASK = 255;
     private static final int COST_SHIFT = STEP_BITS * MOST_PLACES;
 
-    private final Reader reader = new Reader();
-    private final Options options = new Options();
+    private final Knowledge kept = new Knowledge();
+    private Knowledge now = new Knowledge();
+    private Knowledge draft = new Knowledge();
+    private final Reader reader = new Reader(now);
+    private final Options options = new Options(now);
     private final Knots knots = new Knots(options);
     private final Ways ways = new Ways(options, knots);
     private final Stretches stretches = new Stretches(options);
     private final Stacks stacks = new Stacks(options, knots, stretches);
     private final Counting counting = new Counting(options);
     private final Likeness likeness = new Likeness();
-    private final Knowledge kept = new Knowledge();
-    private Knowledge now = new Knowledge();
-    private Knowledge draft = new Knowledge();
     private boolean hasImage;
     private boolean optionsReady;
     private boolean waysReady;
@@ -238,7 +238,11 @@ public final class PhraseRoads {
         }
         int was = now.settings[what];
         now.settings[what] = n;
-        forgetOptions();
+        if (what == UNSEEN || what == PASS) {
+            forgetOptions();
+        } else {
+            forgetWays();
+        }
         return was;
     }
 
@@ -526,6 +530,10 @@ public final class PhraseRoads {
 
     private void forgetOptions() {
         optionsReady = false;
+        forgetWays();
+    }
+
+    private void forgetWays() {
         waysReady = false;
         stacksReady = false;
     }
@@ -763,6 +771,10 @@ public final class PhraseRoads {
         private int at;
         private Knowledge dictionary;
         private boolean growing;
+
+        private Reader(Knowledge known) {
+            dictionary = known;
+        }
 
         private void append(int n) {
             for (int shift = 24; shift >= 0 && length < MOST_BYTES; shift -= 8) {
@@ -1056,11 +1068,18 @@ public final class PhraseRoads {
         private final int[] numbers = new int[MOST_OPTIONS];
         private final int[] targets = new int[MOST_OPTIONS * MOST_PARTS];
         private final int[] targetSizes = new int[MOST_OPTIONS];
+        /** The first and the last word of the target; NONE of an empty one. */
+        private final int[] firsts = new int[MOST_OPTIONS];
+        private final int[] lasts = new int[MOST_OPTIONS];
         /** Cost of the option with fluency inside its target: what a step costs wherever it stands. */
         private final int[] owns = new int[MOST_OPTIONS];
         private int many;
         private int places;
         private Knowledge known;
+
+        private Options(Knowledge known) {
+            this.known = known;
+        }
 
         private void gather(Knowledge from) {
             known = from;
@@ -1089,6 +1108,8 @@ public final class PhraseRoads {
         private void bring(int[] words, int from, int size) {
             System.arraycopy(words, from, targets, many * MOST_PARTS, size);
             targetSizes[many] = size;
+            firsts[many] = size == 0 ? NONE : words[from];
+            lasts[many] = size == 0 ? NONE : words[from + size - 1];
             for (int i = 1; i < size; i++) {
                 owns[many] += known.flow(words[from + i - 1], words[from + i]);
             }
@@ -1129,16 +1150,12 @@ public final class PhraseRoads {
         }
 
         private int lastWord(int option, int before) {
-            int size = targetSizes[option];
-            return size == 0 ? before : targets[option * MOST_PARTS + size - 1];
+            return lasts[option] == NONE ? before : lasts[option];
         }
 
         /** Cost of a step behind a text that ends with that word, without the jump. */
         private int standing(int option, int before) {
-            if (targetSizes[option] == 0) {
-                return owns[option];
-            }
-            return owns[option] + known.flow(before, targets[option * MOST_PARTS]);
+            return firsts[option] == NONE ? owns[option] : owns[option] + known.flow(before, firsts[option]);
         }
 
         private int ending(int last) {
@@ -1256,12 +1273,12 @@ public final class PhraseRoads {
             int last = last(from);
             int least = ENDLESS;
             for (int option = 0; option < options.many; option++) {
-                int gap = options.gap(option, behind);
-                if ((mask & options.covers[option]) != 0 || gap > far || options.numbers[option] == without) {
+                if ((mask & options.covers[option]) != 0 || options.numbers[option] == without) {
                     continue;
                 }
+                int gap = options.gap(option, behind);
                 int knot = follow(mask, last, option);
-                if (knot >= 0) {
+                if (gap <= far && knot >= 0) {
                     least = Math.min(least, rests[knot] + options.standing(option, last) + jump * gap);
                 }
             }

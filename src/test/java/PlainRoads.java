@@ -75,6 +75,7 @@ final class PlainRoads {
         }
     }
 
+    private final int mostWays;
     private final Map<List<Integer>, List<Row>> known = new HashMap<>();
     private State s = new State();
     private State image;
@@ -82,6 +83,10 @@ final class PlainRoads {
     private int fault = NONE;
     private String text;
     private int at;
+
+    PlainRoads(int mostWays) {
+        this.mostWays = mostWays;
+    }
 
     int feed(int a, int b, int c, int d, int e) {
         if (tape.length() + 20 > 400) {
@@ -600,7 +605,7 @@ final class PlainRoads {
             if (row.covered == full) {
                 row.cost += flow(lastOf(row.text), NONE);
                 ways.add(row);
-                if (ways.size() > 3000) {
+                if (ways.size() > mostWays) {
                     throw new TooMuch();
                 }
                 continue;

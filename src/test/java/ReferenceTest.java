@@ -1,77 +1,53 @@
-import java.lang.reflect.InvocationTargetException;
-import java.lang.reflect.Method;
-import java.util.HashMap;
-import java.util.Map;
 import java.util.Random;
+import java.util.TreeSet;
 
-/** Long random runs of calls, each answer compared with that of PlainRoads, which tries all ways. */
+/** Long random runs of calls with right and wrong arguments and texts, each answer compared with PlainRoads. */
 public final class ReferenceTest {
     private static final String[] READERS = {"forced", "near", "match", "tuned"};
     private static final String[] ASKERS = {"letter", "phrase", "part", "after", "place", "option", "stretch", "exact",
         "many", "way", "step", "word", "found", "halves", "stack", "agreed", "needed", "idle", "reach", "width", "fault", "count"};
-    private static final String[] CHANGERS = {"put", "price", "drop", "tune", "image", "back"};
+    private static final String[] CHANGERS = {"put", "price", "price", "drop", "drop", "tune", "tune", "tune", "image", "back"};
     private static final String LETTERS = "abcde";
 
-    private final Map<String, Method> real = new HashMap<>();
-    private final Map<String, Method> plain = new HashMap<>();
-    private final StringBuilder log = new StringBuilder();
-    private Random random;
-    private PhraseRoads roads;
-    private PlainRoads model;
-    private int compared;
-    private int skipped;
-    private boolean wrong;
+    private final Random random;
+    private final Twins twins = new Twins(3000);
 
     public static void main(String[] args) throws Exception {
-        int runs = args.length > 0 ? Integer.parseInt(args[0]) : 400;
+        int runs = args.length > 0 ? Integer.parseInt(args[0]) : 300;
         int first = args.length > 1 ? Integer.parseInt(args[1]) : 1;
-        ReferenceTest test = new ReferenceTest();
-        for (int seed = first; seed < first + runs && !test.wrong; seed++) {
-            test.run(seed);
-        }
-        System.out.println("ReferenceTest: " + test.compared + " answers compared, " + test.skipped + " left out");
-        if (test.wrong || test.compared == 0) {
-            System.exit(1);
-        }
-    }
-
-    private ReferenceTest() {
-        for (Method m : PhraseRoads.class.getDeclaredMethods()) {
-            if (java.lang.reflect.Modifier.isPublic(m.getModifiers())) {
-                real.put(m.getName(), m);
-                for (Method other : PlainRoads.class.getDeclaredMethods()) {
-                    if (other.getName().equals(m.getName()) && java.util.Arrays.equals(other.getParameterTypes(), m.getParameterTypes())) {
-                        plain.put(m.getName(), other);
-                    }
-                }
+        boolean wrong = false;
+        for (int seed = first; seed < first + runs && !wrong; seed++) {
+            ReferenceTest test = new ReferenceTest(seed);
+            test.run();
+            wrong = test.twins.wrong;
+            if (wrong) {
+                System.out.println("run " + seed + ":\n" + test.twins.log);
             }
         }
+        Twins.close("ReferenceTest", wrong);
     }
 
-    private void run(int seed) throws Exception {
+    private ReferenceTest(int seed) {
         random = new Random(seed);
-        roads = new PhraseRoads();
-        model = new PlainRoads();
-        log.setLength(0);
+    }
+
+    private void run() throws Exception {
         int calls = 0;
-        while (calls < 450 && !wrong) {
+        while (calls < 480 && !twins.wrong) {
             calls += act();
-        }
-        if (wrong) {
-            System.out.println("run " + seed + ":\n" + log);
         }
     }
 
     private int act() throws Exception {
         int dice = random.nextInt(100);
         if (dice < 6) {
-            return text("book", list(random.nextInt(5) == 0 ? 13 : 4, "entry"));
+            return text("book", list(random.nextInt(5) == 0 ? 13 : 4, true));
         }
         if (dice < 11) {
-            return text("fluency", list(random.nextInt(5) == 0 ? 13 : 8, "pair"));
+            return text("fluency", list(random.nextInt(5) == 0 ? 13 : 8, false));
         }
         if (dice < 15) {
-            return text("sentence", words(0, random.nextInt(6) == 0 ? 7 : 4));
+            return text("sentence", words(random.nextInt(4) == 0 ? 0 : 2, random.nextInt(6) == 0 ? 7 : 4));
         }
         if (dice < 17) {
             return text("learn", lesson());
@@ -79,31 +55,16 @@ public final class ReferenceTest {
         if (dice < 26) {
             return text(READERS[random.nextInt(READERS.length)], told());
         }
-        if (dice < 38) {
-            call(CHANGERS[random.nextInt(CHANGERS.length)]);
-            return 1;
-        }
-        call(ASKERS[random.nextInt(ASKERS.length)]);
+        String[] names = dice < 36 ? CHANGERS : ASKERS;
+        String name = names[random.nextInt(names.length)];
+        twins.ask(name, values(name));
         return 1;
     }
 
     private int text(String reader, String text) throws Exception {
-        String told = random.nextInt(6) == 0 ? spoiled(text) : text;
-        log.append("  \"").append(told).append("\"\n");
-        int calls = 2;
-        for (int from = 0; from < told.length(); from += 20) {
-            Object[] five = new Object[5];
-            for (int i = 0; i < 5; i++) {
-                five[i] = Desk.four(told, from + 4 * i);
-            }
-            compare("feed", five);
-            calls++;
-        }
-        compare("end", told.length());
-        call(reader);
-        compare("fault");
-        compare("count", 0);
-        return calls + 2;
+        int calls = twins.read(reader, random.nextInt(6) == 0 ? spoiled(text) : text, values(reader));
+        twins.ask("count", random.nextInt(4));
+        return calls + 1;
     }
 
     private String spoiled(String text) {
@@ -111,23 +72,21 @@ public final class ReferenceTest {
         StringBuilder b = new StringBuilder(text);
         int at = random.nextInt(text.length() + 1);
         char sign = signs.charAt(random.nextInt(signs.length()));
-        if (at < b.length() && random.nextBoolean()) {
-            if (random.nextBoolean()) {
-                b.setCharAt(at, sign);
-            } else {
-                b.deleteCharAt(at);
-            }
-        } else if (b.length() < 400) {
+        if (at == b.length() || random.nextBoolean()) {
             b.insert(at, sign);
+        } else if (random.nextBoolean()) {
+            b.setCharAt(at, sign);
+        } else {
+            b.deleteCharAt(at);
         }
-        return b.toString();
+        return b.length() > 400 ? text : b.toString();
     }
 
-    private String list(int most, String what) {
+    private String list(int most, boolean entries) {
         StringBuilder b = new StringBuilder(blank());
         int n = random.nextInt(most + 1);
         for (int i = 0; i < n; i++) {
-            b.append(i == 0 ? "" : ";").append(blank()).append(what.equals("entry") ? entry() : pair()).append(blank());
+            b.append(i == 0 ? "" : ";").append(blank()).append(entries ? entry() : pair()).append(blank());
         }
         return b.length() > 400 ? "" : b.toString();
     }
@@ -145,13 +104,12 @@ public final class ReferenceTest {
     private String lesson() {
         int one = 1 + random.nextInt(5);
         int two = 1 + random.nextInt(5);
-        StringBuilder b = new StringBuilder(words(one, one) + blank() + "=" + words(two, two) + "/" + blank());
-        java.util.TreeSet<String> links = new java.util.TreeSet<>();
+        TreeSet<String> links = new TreeSet<>();
         int n = 1 + random.nextInt(5);
         for (int i = 0; i < n; i++) {
             links.add(random.nextInt(one) + " " + random.nextInt(two));
         }
-        return b.append(String.join(blank() + ";" + blank(), links)).toString();
+        return words(one, one) + blank() + "=" + words(two, two) + "/" + blank() + String.join(blank() + ";" + blank(), links);
     }
 
     /** Often a text that some way gives, else any words. */
@@ -159,6 +117,7 @@ public final class ReferenceTest {
         if (random.nextInt(3) == 0) {
             return words(0, random.nextInt(6) == 0 ? 20 : 6);
         }
+        PhraseRoads roads = twins.roads;
         StringBuilder b = new StringBuilder();
         int k = random.nextInt(30);
         for (int n = 0; roads.word(k, n) != -1; n++) {
@@ -188,63 +147,64 @@ public final class ReferenceTest {
     }
 
     private String cost() {
-        int dice = random.nextInt(50);
+        int dice = random.nextInt(80);
         if (dice == 0) {
             return "100";
         }
-        return dice == 1 ? "0007" : dice == 2 ? "007" : String.valueOf(random.nextInt(dice < 30 ? 6 : 100));
+        return dice == 1 ? "0007" : dice == 2 ? "007" : String.valueOf(random.nextInt(dice < 50 ? 6 : 100));
     }
 
     private String blank() {
         return " ".repeat(random.nextInt(8) == 0 ? 2 : 0);
     }
 
-    private void call(String name) throws Exception {
-        Class<?>[] types = real.get(name).getParameterTypes();
+    private Object[] values(String name) {
+        Class<?>[] types = Twins.types(name);
         Object[] values = new Object[types.length];
         for (int i = 0; i < types.length; i++) {
             values[i] = types[i] == boolean.class ? (Object) random.nextBoolean() : (Object) number(name, i);
         }
-        compare(name, values);
+        return values;
     }
 
     private int number(String name, int i) {
-        int dice = random.nextInt(40);
-        if (dice == 0) {
-            return new int[] {Integer.MIN_VALUE, Integer.MAX_VALUE, -1, -2, 1 << 30}[random.nextInt(5)];
+        if (random.nextInt(50) == 0) {
+            return new int[] {Integer.MIN_VALUE, Integer.MAX_VALUE, -1, -2, 1 << 30, 30, 99}[random.nextInt(7)];
         }
-        if (name.equals("tune") && i == 1) {
-            return random.nextInt(random.nextBoolean() ? 8 : 102);
-        }
-        if (name.equals("price") && i == 1) {
-            return random.nextInt(102);
-        }
-        if (i == 0 && (name.equals("way") || name.equals("step") || name.equals("word") || name.equals("count"))) {
-            return random.nextInt(random.nextBoolean() ? 4 : 32);
-        }
-        return random.nextInt(8) - 1;
-    }
-
-    private void compare(String name, Object... values) throws Exception {
-        String want = outcome(plain.get(name), model, values);
-        String got = outcome(real.get(name), roads, values);
-        log.append("  ").append(name).append(java.util.Arrays.toString(values)).append(" -> ").append(got).append('\n');
-        if (want.equals("TooMuch")) {
-            skipped++;
-            return;
-        }
-        compared++;
-        if (!got.equals(want)) {
-            wrong = true;
-            log.append("  due is ").append(want).append('\n');
-        }
-    }
-
-    private static String outcome(Method m, Object on, Object[] values) throws Exception {
-        try {
-            return String.valueOf(m.invoke(on, values));
-        } catch (InvocationTargetException e) {
-            return e.getCause().getClass().getSimpleName();
+        switch (name + i) {
+            case "tune0":
+                return random.nextInt(5);
+            case "tune1":
+                return random.nextInt(random.nextInt(4) == 0 ? 102 : 8);
+            case "price1":
+                return random.nextInt(random.nextBoolean() ? 6 : 101);
+            case "way0":
+            case "step0":
+            case "word0":
+                return random.nextInt(random.nextBoolean() ? 4 : 31);
+            case "phrase0":
+            case "part0":
+            case "price0":
+            case "drop0":
+                return random.nextInt(random.nextBoolean() ? 5 : 31);
+            case "count0":
+            case "agreed0":
+                return random.nextInt(12);
+            case "place0":
+            case "put0":
+            case "option0":
+            case "stretch0":
+            case "stretch1":
+                return random.nextInt(4);
+            case "match0":
+            case "stack1":
+            case "halves1":
+                return random.nextInt(4) - (name.equals("match") ? 0 : 1);
+            case "way1":
+            case "step2":
+                return random.nextInt(4);
+            default:
+                return random.nextInt(7) - (random.nextInt(4) == 0 ? 1 : 0);
         }
     }
 }
