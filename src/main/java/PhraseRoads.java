@@ -117,7 +117,7 @@ public final class PhraseRoads {
 
     public int sentence() throws IllegalArgumentException {
         draft.copy(now);
-        reader.readSentence(draft);
+        reader.readRow(draft, true, MOST_PLACES);
         draft.enterSentence(reader);
         reader.length = 0;
         checkText();
@@ -165,6 +165,7 @@ public final class PhraseRoads {
                 prepareOptions();
                 return options.howOften(phrase);
             case 5:
+                unfoldWay(0);
                 return worthOf(phrase);
             default:
                 throw new NoSuchElementException("a phrase has no such number");
@@ -263,6 +264,7 @@ public final class PhraseRoads {
     }
 
     public int exact() {
+        prepareOptions();
         prepareWays();
         return knots.cheapest();
     }
@@ -388,7 +390,8 @@ public final class PhraseRoads {
 
     public int needed() {
         int bits = 0;
-        int used = phrasesOfFirstWay();
+        unfoldWay(0);
+        int used = phrasesUnfolded();
         int exact = knots.cheapest();
         for (int phrase = 0; phrase < now.phrases; phrase++) {
             if ((used >> phrase & 1) != 0 && reckonOtherwise(now.settings[JUMP], now.settings[FAR], phrase) > exact) {
@@ -410,6 +413,7 @@ public final class PhraseRoads {
     }
 
     public int reach() {
+        prepareOptions();
         int jump = now.settings[JUMP];
         int least = reckonOtherwise(jump, MOST_FAR, NONE);
         int far = 0;
@@ -420,7 +424,9 @@ public final class PhraseRoads {
     }
 
     public int width() {
-        int exact = exact();
+        prepareOptions();
+        prepareWays();
+        int exact = knots.cheapest();
         stacksReady = false;
         for (int wide = 1; wide <= MOST_WIDE; wide++) {
             stacks.fill(now.settings[JUMP], now.settings[FAR], wide);
@@ -433,11 +439,13 @@ public final class PhraseRoads {
 
     public int tuned() throws IllegalArgumentException {
         readTold();
+        prepareOptions();
         int best = 0;
         int least = ENDLESS;
         for (int jump = 0; jump <= MOST_JUMP; jump++) {
             reckonOtherwise(jump, now.settings[FAR], NONE);
             ways.begin();
+            ways.bring(0);
             ways.unfold(0);
             int apart = likeness.apart(ways.text, ways.textSize, reader.row, reader.rowSize);
             if (apart < least) {
@@ -516,7 +524,7 @@ public final class PhraseRoads {
     }
 
     private void readTold() {
-        reader.readTold(now);
+        reader.readRow(now, false, MOST_TOLD);
         reader.length = 0;
         checkText();
     }
@@ -547,8 +555,8 @@ public final class PhraseRoads {
         }
     }
 
+    /** Wants the options ready. */
     private void prepareWays() {
-        prepareOptions();
         if (!waysReady) {
             knots.reckon(now.settings[JUMP], now.settings[FAR], NONE);
             ways.begin();
@@ -565,21 +573,21 @@ public final class PhraseRoads {
     }
 
     private boolean unfoldWay(int k) {
+        prepareOptions();
         prepareWays();
+        ways.bring(k);
         return ways.unfold(k);
     }
 
-    /** EXACT under other numbers; what is kept of the ways no longer holds behind it. */
+    /** EXACT under other numbers; wants the options ready, and what is kept of the ways no longer holds behind it. */
     private int reckonOtherwise(int jump, int far, int without) {
-        prepareOptions();
         waysReady = false;
         knots.reckon(jump, far, without);
         return knots.cheapest();
     }
 
-    private int phrasesOfFirstWay() {
+    private int phrasesUnfolded() {
         int bits = 0;
-        unfoldWay(0);
         for (int n = 0; n < ways.size; n++) {
             int number = options.numbers[ways.steps[n]];
             if (number != PASSED) {
@@ -589,9 +597,9 @@ public final class PhraseRoads {
         return bits;
     }
 
+    /** Wants the first way unfolded: without a phrase that it does not use it stays as cheap. */
     private int worthOf(int phrase) {
-        // The first way stays as cheap without a phrase that it does not use.
-        if ((phrasesOfFirstWay() >> phrase & 1) == 0) {
+        if ((phrasesUnfolded() >> phrase & 1) == 0) {
             return 0;
         }
         int exact = knots.cheapest();
@@ -811,15 +819,13 @@ public final class PhraseRoads {
             }
         }
 
-        private void readSentence(Knowledge known) {
-            start(known, true);
-            readAllWords(MOST_PLACES);
-        }
-
-        /** Words that are none yet come as NONE, which no WORD is. */
-        private void readTold(Knowledge known) {
-            start(known, false);
-            readAllWords(MOST_TOLD);
+        /** Words that are none yet and shall not be come as NONE, which no WORD is. */
+        private void readRow(Knowledge known, boolean grow, int most) {
+            start(known, grow);
+            rowSize = readWords(row, 0, most);
+            if (at < length) {
+                fail(at);
+            }
         }
 
         private void readLesson(Knowledge known) {
@@ -890,13 +896,6 @@ public final class PhraseRoads {
                 fail(begin);
             }
             links[from] |= 1 << to;
-        }
-
-        private void readAllWords(int most) {
-            rowSize = readWords(row, 0, most);
-            if (at < length) {
-                fail(at);
-            }
         }
 
         private int readWords(int[] into, int from, int most) {
@@ -1063,7 +1062,7 @@ public final class PhraseRoads {
      */
     private static final class Options {
         private final int[] starts = new int[MOST_OPTIONS];
-        private final int[] sizes = new int[MOST_OPTIONS];
+        private final int[] ends = new int[MOST_OPTIONS];
         private final int[] covers = new int[MOST_OPTIONS];
         private final int[] numbers = new int[MOST_OPTIONS];
         private final int[] targets = new int[MOST_OPTIONS * MOST_PARTS];
@@ -1099,7 +1098,7 @@ public final class PhraseRoads {
 
         private void add(int start, int size, int number, int cost) {
             starts[many] = start;
-            sizes[many] = size;
+            ends[many] = start + size;
             covers[many] = (1 << (start + size)) - (1 << start);
             numbers[many] = number;
             owns[many] = cost;
@@ -1143,14 +1142,6 @@ public final class PhraseRoads {
 
         private int gap(int option, int behind) {
             return Math.abs(starts[option] - behind);
-        }
-
-        private int behind(int option) {
-            return starts[option] + sizes[option];
-        }
-
-        private int lastWord(int option, int before) {
-            return lasts[option] == NONE ? before : lasts[option];
         }
 
         /** Cost of a step behind a text that ends with that word, without the jump. */
@@ -1203,8 +1194,8 @@ public final class PhraseRoads {
         }
 
         private int codeBehind(int mask, int last, int option) {
-            int place = (mask | options.covers[option]) * BEHINDS + options.behind(option);
-            return place * SIDES + options.lastWord(option, last);
+            int place = (mask | options.covers[option]) * BEHINDS + options.ends[option];
+            return place * SIDES + (options.lasts[option] == NONE ? last : options.lasts[option]);
         }
 
         /** The knot that a step leads to; NONE if it was never come to. */
@@ -1321,9 +1312,16 @@ public final class PhraseRoads {
             return (int) (ready[k] >>> COST_SHIFT);
         }
 
-        /** Lays the steps and the text of the k-th way out; false if there is no such way. */
+        /** Brings the ways up to the k-th, if there are so many. */
+        private void bring(int k) {
+            // No way has more steps than places, so each takes that many looks and one at most.
+            for (int looks = (MOST_PLACES + 1) * MOST_WAYS; looks > 0 && many <= k && waiting > 0; looks--) {
+                takeFirst();
+            }
+        }
+
+        /** Lays the steps and the text of the k-th way out; false if there is no such way among those brought. */
         private boolean unfold(int k) {
-            bring(k);
             size = 0;
             textSize = 0;
             if (k >= many) {
@@ -1342,21 +1340,14 @@ public final class PhraseRoads {
                 int words = options.targetSizes[option];
                 System.arraycopy(options.targets, option * MOST_PARTS, text, textSize, words);
                 textSize += words;
-                behind = options.behind(option);
-                last = options.lastWord(option, last);
+                behind = options.ends[option];
+                last = words == 0 ? last : options.lasts[option];
             }
             return true;
         }
 
         private static int stepOf(long key, int n) {
             return (int) ((key >>> (STEP_BITS * (MOST_PLACES - 1 - n))) & STEP_MASK) - 1;
-        }
-
-        private void bring(int k) {
-            // No way has more steps than places, so each takes that many looks and one at most.
-            for (int looks = (MOST_PLACES + 1) * MOST_WAYS; looks > 0 && many <= k && waiting > 0; looks--) {
-                takeFirst();
-            }
         }
 
         private void takeFirst() {
@@ -1435,7 +1426,7 @@ public final class PhraseRoads {
         private void reckon() {
             Arrays.fill(costs, ENDLESS);
             for (int option = 0; option < options.many; option++) {
-                int at = options.starts[option] * MOST_PLACES + options.behind(option) - 1;
+                int at = options.starts[option] * MOST_PLACES + options.ends[option] - 1;
                 costs[at] = Math.min(costs[at], options.owns[option]);
             }
             for (int size = 2; size <= options.places; size++) {
@@ -1646,7 +1637,7 @@ public final class PhraseRoads {
             int mask = at / BEHINDS;
             for (int option = 0; option < options.many; option++) {
                 if ((mask & options.covers[option]) == 0 && options.gap(option, at % BEHINDS) <= far) {
-                    int to = (mask | options.covers[option]) * BEHINDS + options.behind(option);
+                    int to = (mask | options.covers[option]) * BEHINDS + options.ends[option];
                     counts[to] = Math.min(MOST_COUNTED, counts[to] + counts[at]);
                 }
             }
@@ -1677,7 +1668,7 @@ public final class PhraseRoads {
             for (int option = 0; option < options.many; option++) {
                 int gap = options.gap(option, behind);
                 if ((mask & options.covers[option]) == 0 && gap <= far && tells(option, told, done, size)) {
-                    int knot = (mask | options.covers[option]) * BEHINDS + options.behind(option);
+                    int knot = (mask | options.covers[option]) * BEHINDS + options.ends[option];
                     int to = knot * TOLD_ENDS + done + options.targetSizes[option];
                     costs[to] = Math.min(costs[to], costs[at] + options.standing(option, last) + jump * gap);
                 }
