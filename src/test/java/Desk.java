@@ -4,6 +4,7 @@ import java.util.function.IntSupplier;
 final class Desk {
     private int wrong;
     private int looks;
+    private String label = "";
 
     static void tape(PhraseRoads roads, String text) {
         roads.end(0);
@@ -41,12 +42,40 @@ final class Desk {
         return roads.learn();
     }
 
+    /** Reads a text as one of the eight that read the TAPE; "match 2" is match(2). */
+    static int read(PhraseRoads roads, String kind, String text) {
+        tape(roads, text);
+        switch (kind) {
+            case "book": return roads.book();
+            case "fluency": return roads.fluency();
+            case "sentence": return roads.sentence();
+            case "learn": return roads.learn();
+            case "forced": return roads.forced();
+            case "near": return roads.near();
+            case "tuned": return roads.tuned();
+            default: return roads.match(Integer.parseInt(kind.substring(kind.indexOf(' ') + 1)));
+        }
+    }
+
+    /** What stands ahead of each line that is printed from now on. */
+    void under(String newLabel) {
+        label = newLabel;
+    }
+
+    int looks() {
+        return looks;
+    }
+
     void due(String call, long got, long want) {
         looks++;
         if (got != want) {
-            wrong++;
-            System.out.println(call + " answered " + got + ", due is " + want);
+            wrong(call + " answered " + got + ", due is " + want);
         }
+    }
+
+    void wrong(String line) {
+        wrong++;
+        System.out.println(label + line);
     }
 
     void due(String call, boolean got, boolean want) {
@@ -65,8 +94,7 @@ final class Desk {
             }
             got = e.getClass().getName();
         }
-        wrong++;
-        System.out.println(call + " answered " + got + ", due is " + want.getName());
+        wrong(call + " answered " + got + ", due is " + want.getName());
     }
 
     void index(String call, IntSupplier what) {
@@ -79,6 +107,30 @@ final class Desk {
 
     void element(String call, IntSupplier what) {
         refused(call, java.util.NoSuchElementException.class, what);
+    }
+
+    /** A right text and what the call answers. */
+    void right(PhraseRoads roads, String kind, String text, int want) {
+        String call = kind + " of \"" + text + "\"";
+        int got;
+        try {
+            got = read(roads, kind, text);
+        } catch (RuntimeException e) {
+            looks++;
+            wrong(call + " answered " + e.getClass().getName() + " with fault() " + roads.fault() + ", due is " + want);
+            return;
+        }
+        due(call, got, want);
+        due(call + ": fault()", roads.fault(), PhraseRoads.NONE);
+        due(call + ": the tape is used up", roads.end(1), false);
+    }
+
+    /** A wrong text and its first wrong byte. */
+    void faulty(PhraseRoads roads, String kind, String text, int fault) {
+        String call = kind + " of \"" + text + "\"";
+        argument(call, () -> read(roads, kind, text));
+        due(call + ": fault()", roads.fault(), fault);
+        due(call + ": the tape is used up", roads.end(1), false);
     }
 
     void close(String name) {
