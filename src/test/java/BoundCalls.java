@@ -29,6 +29,7 @@ final class BoundCalls {
         toldFirst();
         nothingHappens();
         wouldBe();
+        nothingStale();
     }
 
     /** Refused with just this exception, and nothing is changed by it but what may be. */
@@ -472,6 +473,42 @@ final class BoundCalls {
             desk.refused("of a new one", UnsupportedOperationException.class, () -> Desk.learn(new PhraseRoads(), lesson));
             desk.right(new PhraseRoads(), "learn", "v w a r=v w x r s t/2 2", 30);
         });
+    }
+
+    /** What was reckoned before a change is no answer behind it. */
+    private void nothingStale() {
+        document.holds(14, "Another WORD is at a PLACE of THE SENTENCE: which was.", () -> {
+            unchanged.nothingStale("put(0, 0)", roads -> roads.put(0, 0));
+            unchanged.nothingStale("put(3, 6)", roads -> roads.put(3, 6));
+        });
+        document.holds(15, "COST of a PHRASE is told (also of one GONE): what it was.", () -> {
+            unchanged.nothingStale("price(0, 99)", roads -> roads.price(0, 99));
+            unchanged.nothingStale("price(4, 0)", roads -> roads.price(4, 0));
+        });
+        document.holds(16, "A PHRASE is GONE (is), or is there again: whether that changed.", () -> {
+            unchanged.nothingStale("drop(4, true)", roads -> roads.drop(4, true));
+            unchanged.nothingStale("drop(1, false)", roads -> roads.drop(1, false));
+        });
+        document.holds(17, "UNSEEN (what 0), PASS (1), JUMP (2), FAR (3), WIDE (4) is told: what it was.", () -> {
+            int[][] ends = {{0, 99}, {0, 99}, {0, 20}, {0, 6}, {1, 40}};
+            for (int what = 0; what < ends.length; what++) {
+                for (int n : ends[what]) {
+                    int told = what;
+                    unchanged.nothingStale("tune(" + what + ", " + n + ")", roads -> roads.tune(told, n));
+                }
+            }
+        });
+        document.holds(6, "{ W }, at most 6, in place of the one before", () -> {
+            for (String text : new String[] {"", "a", "b", "a c", "c a b", "a a a a a a", "b a c a b a"}) {
+                unchanged.nothingStale("sentence " + text, roads -> Desk.sentence(roads, text));
+            }
+        });
+        document.holds(4, "a PHRASE of that SOURCE and TARGET; if there is one of both already that is not GONE, N is its COST from now on", () ->
+                unchanged.nothingStale("book", roads -> Desk.book(roads, "b=z 0;a=x 0")));
+        document.holds(5, "in place of what was told of that pair", () -> unchanged.nothingStale("fluency", roads -> Desk.fluency(roads, "x y 0;x x 99")));
+        document.holds(7, "Uses the TAPE up: a LESSON is LEARNED", () -> unchanged.nothingStale("learn", roads -> Desk.learn(roads, "b a=x y/0 0;1 1")));
+        document.holds(38, "One goes back to THE IMAGE: true", () -> unchanged.nothingStale("back()", PhraseRoads::back));
+        document.holds(37, "THE IMAGE is kept.", () -> unchanged.nothingStale("image()", PhraseRoads::image));
     }
 
     private void wouldBe() {

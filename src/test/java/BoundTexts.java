@@ -14,6 +14,7 @@ final class BoundTexts {
 
     void all() {
         newObject();
+        lastCalls();
         tape();
         words();
         phrases();
@@ -64,6 +65,32 @@ final class BoundTexts {
             }
             desk.due("no pairs at first", roads.count(2), 0);
             desk.due("unseen at first", roads.after(-1, -1), 20);
+        });
+    }
+
+    private void lastCalls() {
+        document.holds(1, "An object is used for at most 512 calls after it has been made", () -> {
+            PhraseRoads roads = new PhraseRoads();
+            int calls = 0;
+            roads.feed(0x613D7820, 0x313B613D, 0x79203200, 0, 0);
+            roads.end(11);
+            roads.book();
+            roads.feed(0x61206120, 0x61206120, 0x61206100, 0, 0);
+            roads.end(11);
+            desk.due("six words", roads.sentence(), 6);
+            roads.image();
+            calls += 7;
+            while (calls < 506) {
+                roads.price(0, calls % 100);
+                roads.width();
+                roads.back();
+                calls += 3;
+            }
+            desk.due("calls up to now", calls, 508);
+            desk.due("the 509th", roads.exact(), 6 + 7 * 20);
+            desk.due("the 510th", roads.way(29, 1), 6);
+            desk.due("the 511th", roads.drop(0, true), true);
+            desk.due("the 512th", roads.exact(), 12 + 7 * 20);
         });
     }
 
@@ -132,6 +159,41 @@ final class BoundTexts {
             desk.due("h", roads.letter(0, 0), 'h' - 'a');
             desk.due("o", roads.letter(0, 1), 'o' - 'a');
         });
+        document.holds(3, "The TAPE has its first n bytes alone", () -> {
+            cutShort("book", "a=b 123", 5, 1);
+            cutShort("book", "a=b 1;c=d 1", 5, 1);
+            cutShort("book", "a=b 1 ; c=d 1", 6, 1);
+            cutShort("book", "abcdefghij", 0, 0);
+            cutShort("fluency", "a b 12345", 6, 1);
+            cutShort("sentence", "abcdefghij", 8, 1);
+            cutShort("sentence", "a b c d e f g", 11, 6);
+            cutShort("sentence", "a b c d e f g", 12, 6);
+            cutShort("learn", "a=b/0 01", 7, 1);
+            cutShort("learn", "a=b/0 0;0 0", 7, 1);
+            cutShort("near", "ab?", 2, 1);
+            for (int length = 0; length < 8; length++) {
+                int bytes = length;
+                PhraseRoads roads = new PhraseRoads();
+                desk.argument("a lesson cut at " + bytes, () -> cutAndRead(roads, "learn", "ab=cd/0 0", bytes));
+                desk.due("a lesson cut at " + bytes + ": fault()", roads.fault(), bytes);
+            }
+        });
+        document.holds(2, "NONE, and none come, if it would have more than 400.", () -> {
+            String[] ends = {"book", "a=b 7", "book", "a=b 7;a=b 100", "book", "a=b 7;", "book", "a=", "book", "a", "fluency", "^$99", "fluency", "^",
+                "sentence", "a z", "sentence", "?", "learn", "a=b/0 0", "learn", "a=b/0", "learn", "a=b", "near", "", "near", "a", "near", "1"};
+            int[] faults = {-1, 397, 400, 400, 400, -1, 400, -1, 399, -1, 400, 400, -1, -1, 399};
+            for (int i = 0; i < faults.length; i++) {
+                PhraseRoads roads = new PhraseRoads();
+                String text = " ".repeat(400 - ends[2 * i + 1].length()) + ends[2 * i + 1];
+                String kind = ends[2 * i];
+                if (faults[i] == -1) {
+                    desk.due("400 bytes of " + kind, Desk.read(roads, kind, text) >= 0, true);
+                } else {
+                    desk.argument("400 bytes of " + kind, () -> Desk.read(roads, kind, text));
+                }
+                desk.due("400 bytes of " + kind + " ending in \"" + ends[2 * i + 1] + "\": fault()", roads.fault(), faults[i]);
+            }
+        });
         document.holds(3, "false, and nothing happens, if it has fewer, or n is below 0.", () -> {
             for (int n : new int[] {401, 21, Integer.MAX_VALUE, -1, -20, Integer.MIN_VALUE}) {
                 PhraseRoads roads = new PhraseRoads();
@@ -153,6 +215,23 @@ final class BoundTexts {
                 desk.due(kind + ": then the tape begins anew", feedZ(roads), 20);
             }
         });
+    }
+
+    /** More bytes lie behind those that are read, from what was fed before. */
+    private void cutShort(String kind, String text, int bytes, int want) {
+        desk.due(kind + " of the first " + bytes + " of \"" + text + "\"", cutAndRead(new PhraseRoads(), kind, text, bytes), want);
+    }
+
+    private static int cutAndRead(PhraseRoads roads, String kind, String text, int bytes) {
+        Desk.tape(roads, text);
+        roads.end(bytes);
+        switch (kind) {
+            case "book": return roads.book();
+            case "fluency": return roads.fluency();
+            case "sentence": return roads.sentence();
+            case "learn": return roads.learn();
+            default: return roads.near();
+        }
     }
 
     /** 7 where the text was refused. */

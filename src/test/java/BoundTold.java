@@ -48,8 +48,12 @@ final class BoundTold {
             desk.right(roads, "forced", "x x", -1);
             desk.right(roads, "forced", "a b", 100);
             desk.right(roads, "forced", "a", 54);
+            roads.tune(3, 2);
+            desk.right(roads, "forced", "y x", 6);
             roads.tune(3, 1);
             desk.right(roads, "forced", "y x", -1);
+            roads.tune(3, 0);
+            desk.right(roads, "forced", "x y", 3);
             roads.drop(0, true);
             desk.right(roads, "forced", "x y", 9);
             roads.drop(4, true);
@@ -172,6 +176,8 @@ final class BoundTold {
         document.holds(10, "WORTH of a PHRASE: how much EXACT would be more, if it were GONE.", () -> {
             PhraseRoads roads = BoundWays.tuned(0, 99, 0, 0);
             Desk.book(roads, "a=x 0;a=y 0;b=x 1;c=x 1;c=y 5");
+            Desk.sentence(roads, "b");
+            desk.due("the only one of the only word", roads.phrase(2, 5), 98);
             Desk.sentence(roads, "a b");
             int[] worth = {0, 0, 98, 0, 0};
             for (int phrase = 0; phrase < worth.length; phrase++) {

@@ -15,6 +15,7 @@ final class BoundWays {
         costs();
         emptySentence();
         order();
+        mostWays();
         many();
         noSuchWay();
         stretches();
@@ -271,6 +272,68 @@ final class BoundWays {
         });
     }
 
+    /** Thirty phrases for the first word, or for all of six: as much as the ways can have to look at. */
+    private void mostWays() {
+        document.holds(22, "Of the k-th WAY (0 to 29)", () -> {
+            PhraseRoads roads = tuned(99, 99, 20, 0);
+            thirty(roads, 99);
+            Desk.sentence(roads, "a b c d e f");
+            way(roads, 29, 6 * 99 + 7 * 99, 0, 29, 1, 99, 2, 99, 3, 99, 4, 99, 5, 99);
+            way(roads, 0, 6 * 99 + 7 * 99, 0, 0, 1, 99, 2, 99, 3, 99, 4, 99, 5, 99);
+            roads.drop(29, true);
+            way(roads, 29, 6 * 99 + 7 * 99, 0, 99, 1, 99, 2, 99, 3, 99, 4, 99, 5, 99);
+            roads.drop(28, true);
+            desk.due("no thirtieth", roads.way(29, 0), -1);
+        });
+        document.holds(22, "Of the k-th WAY (0 to 29)", () -> {
+            PhraseRoads roads = tuned(0, 1, 0, 0);
+            thirty(roads, 0);
+            roads.drop(0, true);
+            Desk.sentence(roads, "a pa");
+            way(roads, 28, 1, 0, 29, 1, 99);
+            way(roads, 29, 2, 0, 99, 1, 99);
+            PhraseRoads last = tuned(0, 1, 0, 0);
+            Desk.book(last, "b=x 5;a=ba 0;a=bb 0;a=bc 0;a=bd 0;a=be 0;a=bf 0;a=bg 0;a=bh 0;a=bi 0");
+            Desk.book(last, "a=ca 0;a=cb 0;a=cc 0;a=cd 0;a=ce 0;a=cf 0;a=cg 0;a=ch 0;a=ci 0;a=cj 0");
+            Desk.book(last, "a=da 0;a=db 0;a=dc 0;a=dd 0;a=de 0;a=df 0;a=dg 0;a=dh 0;a=di 0;a=dj 0");
+            Desk.sentence(last, "a b");
+            way(last, 28, 1, 0, 29, 1, 99);
+            way(last, 29, 2, 0, 99, 1, 99);
+        });
+        document.holds(22, "WAYS are ordered by COST", () -> {
+            PhraseRoads roads = tuned(0, 99, 0, 0);
+            thirty(roads, 0);
+            for (int phrase = 0; phrase < 30; phrase++) {
+                roads.price(phrase, 30 - phrase);
+            }
+            Desk.sentence(roads, "a a");
+            int k = 0;
+            for (int cost = 2; k < 30; cost++) {
+                for (int one = 0; one < 30 && k < 30; one++) {
+                    int other = 60 - cost - one;
+                    if (other >= 0 && other < 30) {
+                        way(roads, k, cost, 0, one, 1, other);
+                        k++;
+                    }
+                }
+            }
+        });
+        document.holds(22, "the K-th WAY (0 the first)", () -> {
+            PhraseRoads roads = tuned(0, 99, 1);
+            thirty(roads, 9);
+            Desk.sentence(roads, "a a a a a a");
+            desk.due("186 options", roads.option(5, 30), 99);
+            way(roads, 29, 54, 0, 0, 1, 0, 2, 0, 3, 0, 4, 0, 5, 29);
+            desk.due("found", roads.found(0), 54);
+            desk.due("31 of each of six, then of 8 of each stack", roads.found(2), 186 + 8 * 31 * (5 + 4 + 3 + 2 + 1));
+            desk.right(roads, "forced", "rj rj rj rj rj rj", 54);
+            desk.right(roads, "forced", "rj rj rj rj rj a", 45 + 99);
+            desk.due("needed", roads.needed(), 0);
+            desk.due("reach", roads.reach(), 0);
+            desk.due("width", roads.width(), 1);
+        });
+    }
+
     private void many() {
         document.holds(21, "MANY: how many WAYS there are (1000000000 at most).", () -> {
             PhraseRoads roads = new PhraseRoads();
@@ -400,6 +463,12 @@ final class BoundWays {
             row("two runs beside the middle one", new int[] {10, 10, 10, 10}, n -> roads.stack(n, 1));
             roads.tune(1, 0);
             row("all for nothing", new int[] {0, 0, 0, 0}, n -> roads.stack(n, 1));
+            PhraseRoads middle = tuned(20, 10, 0);
+            Desk.fluency(middle, "^ b 0;b d 0");
+            Desk.sentence(middle, "a b c");
+            row("the middle one first, then two runs of one", new int[] {30, 30, 50, 70}, n -> middle.stack(n, 1));
+            Desk.sentence(middle, "a b c d e");
+            row("runs of one and three, of one, one and one", new int[] {50, 50, 50, 70, 90, 110}, n -> middle.stack(n, 1));
         });
         document.holds(27, "its SCORE: COST of its STEPS, and AHEAD of what it does not cover", () -> {
             PhraseRoads roads = tuned(0, 10, 5, 0);

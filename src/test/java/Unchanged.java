@@ -1,6 +1,7 @@
 import java.util.ArrayList;
 import java.util.List;
 import java.util.function.Consumer;
+import java.util.function.Supplier;
 import java.util.function.ToIntFunction;
 
 /**
@@ -66,22 +67,31 @@ final class Unchanged {
         compare(name + ", then back", true, true, exempt, call);
     }
 
+    /** A call that does change something: nothing that was reckoned ahead of it is answered behind it. */
+    void nothingStale(String name, Consumer<PhraseRoads> call) {
+        ask(name + " on a warm one", TAPE, () -> made(false, false, call), () -> made(true, false, call));
+    }
+
     private void compare(String name, boolean warm, boolean back, int exempt, Consumer<PhraseRoads> call) {
+        ask(name, exempt, () -> made(warm, back, roads -> { }), () -> made(warm, back, call));
+    }
+
+    private void ask(String name, int exempt, Supplier<PhraseRoads> ones, Supplier<PhraseRoads> others) {
         List<Question> questions = questions(exempt);
         PhraseRoads one = null;
         PhraseRoads other = null;
         for (int i = 0; i < questions.size(); i++) {
             if (i % ASKED == 0) {
-                one = made(warm, back, roads -> { });
-                other = made(warm, back, call);
+                one = ones.get();
+                other = others.get();
             }
             Question question = questions.get(i);
             desk.due(name + ": " + question.name, answer(other, question), answer(one, question));
         }
         if ((exempt & TAPE) == 0) {
-            compareTapes(name, made(warm, back, roads -> { }), made(warm, back, call));
+            compareTapes(name, ones.get(), others.get());
         }
-        compareTold(name, made(warm, back, roads -> { }), made(warm, back, call));
+        compareTold(name, ones.get(), others.get());
     }
 
     private static PhraseRoads made(boolean warm, boolean back, Consumer<PhraseRoads> call) {
