@@ -1,4 +1,4 @@
-/** Each sentence of the document that names a boundary case, with looks of its own. */
+/** Whatever the document says, with looks of its own: its boundary cases first, then the rest of it. */
 public final class BoundsTest {
     private BoundsTest() {
     }
@@ -10,6 +10,7 @@ public final class BoundsTest {
         new BoundCalls(document).all();
         new BoundWays(document).all();
         new BoundTold(document).all();
+        new BoundRest(document).all();
         document.close("BoundsTest");
     }
 }
